@@ -476,7 +476,7 @@ public final class EdgeTests {
 
   private static void named() {
     sentence("7: -2 when there is no such bath",
-        RICH + each("named(*,0,0)=-2", "min -1 5 9 max") + each("named(*,0,0)=-2", "min -1 9 max"));
+        RICH + each("named(*,0,0)=-2", "min -1 5 9 max") + each("named(*,2,3)=-2", "min -1 5 9 max"));
     sentence("7: -2 when there is no such bath, in an empty works", each("named(*,0,0)=-2", "min -1 0 9 max"));
     sentence("7: -2 when there is no such TYPE",
         RICH + each("named(3,*,0)=-2", "min -1 3 max") + each("named(4,*,0)=-2", "min -1 3 max"));
@@ -805,8 +805,8 @@ public final class EdgeTests {
             + acts(2, 0, 1));
     sentence("21: the BEST PLAN as things are now: behind what fewest() and reach() told",
         works + "fewest(2)=2 reach(2)=4" + acts(2, 0, 1) + "fewest(2)=2 need(1,0,-1)=0" + acts(2, 1)
-            + "goal(0) fewest(2)=2 forget()" + acts(2) + "goal(1) fewest(2)=1 recipe(1,0,1) need(1,0,0)"
-            + acts(2, 0, 1));
+            + "fewest(3)=1 reach(3)=4" + acts(3, 1) + "goal(0) fewest(2)=2 forget()" + acts(2)
+            + "goal(1) fewest(2)=1 recipe(1,0,1) need(1,0,0)" + acts(2, 0, 1));
     sentence("21: of 9 FRAIL ones, among the most ways",
         "add(4) ".repeat(6) + "add(4,0,1) add(4,2,3) add(4,4,5) goal(6) goal(7) goal(8) least()=5 fewest(9)=9"
             + acts(9, 0, 1, 2, 3, 4, 5, 6, 9, 7, 10, 8) + acts(8, 0, 1, 2, 3, 4, 6, 9, 5, 10, 7, 11, 8));
@@ -966,6 +966,12 @@ public final class EdgeTests {
     sentence("26: 4 with so many VATS: what is full makes none",
         "add(0) add(0) bath(0) goal(2) flip(0) flip(1) flip(2) check(1)=0 check(2)=4 where()=1 flip(3) check(2)=0"
             + " check(18)=0");
+    sentence("26: 4 an act leads to where the bit is 0: behind a POUR of another, too, a GOAL that STANDS has STOOD",
+        "bath(0) bath(0) bath(0) goal(0) goal(2) flip(0) flip(2) flip(3) flip(512) check(1)=4 where()=3 flip(513)"
+            + " check(1)=0");
+    sentence("26: 4 with so many VATS: where more STAND than there are, POURS alone lead on",
+        "add(0) add(0) add(0) bath(0) goal(3) row(1)=4 check(1)=0 flip(3) check(1)=0 flip(7) check(1)=4 where()=7"
+            + " flip(5) flip(6) check(1)=0 check(3)=0 flip(7) check(2)=0 check(3)=4 where()=3");
     sentence("26: 4 the last bath's acts, too",
         "bath(0) ".repeat(8) + "add(0) goal(0) flip(0) check(1)=4 where()=0 flip(256) check(1)=0 flip(0)"
             + " check(1)=1 flip(0) flip(384) check(1)=4 where()=384 flip(128) check(1)=0");
@@ -982,7 +988,7 @@ public final class EdgeTests {
     sentence("27: of the latest check(): other calls leave it",
         "bath(0) goal(0) flip(0) flip(9) check(1)=3 flip(9) row(1) forget() together(yes) where()=9 check(1)=2"
             + " where()=0");
-    sentence("27: the last bit",
+    sentence("27: a bit far up",
         "bath(0) goal(0) flip(0) flip(4094) check(1)=2 where()=4094 flip(4094) flip(3070) check(1)=2 where()=3070");
   }
 
@@ -1002,6 +1008,7 @@ public final class EdgeTests {
     private static final Pattern CALL = Pattern.compile("(\\w+)\\(([^)]*)\\)(?:=(-?\\d+))?");
     private static final Set<String> QUESTIONS = Set.of("named", "ring", "order", "why", "of", "count", "least",
         "fewest", "plan", "reach", "bit", "where");
+    /** A look takes back as many as 100 acts, with three calls for each, and an object has but 512. */
     private static final int MOST_LOOKED_BEHIND = 120;
 
     private final String told;
