@@ -630,7 +630,7 @@ public final class DyeVats {
     private static final int MAKES_SHIFT = 16;
     private static final int POUR_COST = 1;
     private static final int MAKE_COST = 1 + (1 << MAKES_SHIFT);
-    private static final int FAR = Integer.MAX_VALUE;
+    private static final int FAR = 2147483647;
     private static final int UNKNOWN = -9;
 
     private final Rules rules;
