@@ -11,7 +11,7 @@ import java.util.regex.Pattern;
  * <p>A test is a text of calls with the answers that are due, such as vats(19)=-2; a call without an
  * answer prepares and must not be refused. add(kind, names..) is a bath with a recipe that names
  * these (-1: none); min and max are the ints at the ends. Behind each call that is refused, and each
- * that only asks, all that can be asked of the object must be as without that call.
+ * that only asks, what a Look asks of the object must be as without that call.
  */
 public final class EdgeTests {
   private static final int PROMISES = 27;
@@ -1167,7 +1167,10 @@ public final class EdgeTests {
     }
   }
 
-  /** All that can be asked behind some calls; the objects that are asked are made anew for it. */
+  /**
+   * What can be asked behind some calls, but for plans with more than the least vats and most of
+   * reach(), which would take long; the objects that are asked are made anew for it.
+   */
   private record Look(List<Integer> ring, List<Integer> rest) {
     private static final int BATHS = 9;
 
