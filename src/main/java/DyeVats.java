@@ -45,7 +45,7 @@ public final class DyeVats {
   private final RingFinder rings = new RingFinder();
   private final History history = new History();
   private final Planner planner = new Planner(rules);
-  private final Proof proof = new Proof(rules);
+  private final Proof proof = new Proof(rules, planner);
   private final int[] timesMade = new int[MOST_BATHS];
   private int vatCount = VATS_AT_FIRST;
   private int scene = 0;
@@ -686,16 +686,26 @@ public final class DyeVats {
     /** How many scenes can be come to with v vats, goals aside. */
     int scenesFor(int v) {
       if (ways[v] == UNKNOWN) {
-        startLine();
-        for (int at = 0; at < line.length && at < lineEnd; at++) {
-          for (int act = 0; act < 2 * MOST_BATHS; act++) {
-            int to = rules.lead(line[at], act, v);
-            join(to == NONE ? NONE : to & ~STOOD_BITS, 0);
-          }
-        }
-        ways[v] = lineEnd;
+        ways[v] = flood(v, ~STOOD_BITS);
       }
       return ways[v];
+    }
+
+    /** Puts each scene into the line that can be come to, the bits of the mask alone: how many. */
+    int flood(int v, int mask) {
+      startLine();
+      for (int at = 0; at < line.length && at < lineEnd; at++) {
+        for (int act = 0; act < 2 * MOST_BATHS; act++) {
+          int to = rules.lead(line[at], act, v);
+          join(to == NONE ? NONE : to & mask, 0);
+        }
+      }
+      return lineEnd;
+    }
+
+    /** A scene of the line that flood made latest. */
+    int sceneAt(int at) {
+      return at >= 0 && at < lineEnd ? line[at] : NONE;
     }
 
     private void startLine() {
@@ -801,13 +811,14 @@ public final class DyeVats {
   /** The row of bits, and whether it proves that so many vats never do. */
   private static final class Proof {
     private final Rules rules;
+    private final Planner planner;
     final byte[] bits = new byte[ROW_BITS];
-    private final int[] line = new int[ROW_BITS];
     int ones = 0;
     int faultAt = NONE;
 
-    Proof(Rules rules) {
+    Proof(Rules rules, Planner planner) {
       this.rules = rules;
+      this.planner = planner;
     }
 
     int turn(int k) {
@@ -819,20 +830,14 @@ public final class DyeVats {
     int build(int v) {
       Arrays.fill(bits, (byte) 0);
       ones = 0;
-      join(0);
-      for (int at = 0; at < ROW_BITS && at < ones; at++) {
-        for (int act = 0; act < 2 * MOST_BATHS; act++) {
-          join(rules.lead(line[at], act, v));
+      int scenes = planner.flood(v, ROW_BITS - 1);
+      for (int at = 0; at < scenes; at++) {
+        int k = planner.sceneAt(at);
+        if (isRowBit(k)) {
+          turn(k);
         }
       }
       return ones;
-    }
-
-    private void join(int k) {
-      if (isRowBit(k) && bits[k] == 0 && isRowBit(ones)) {
-        line[ones] = k;
-        turn(k);
-      }
     }
 
     int examine(int v) {

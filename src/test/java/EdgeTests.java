@@ -519,6 +519,11 @@ public final class EdgeTests {
     sentence("8: the least bath behind greater ones",
         "bath(0) bath(0) bath(0) recipe(0,0,1) recipe(1,0,1) recipe(2,0,1) need(2,0,0) need(0,0,1) need(1,0,2)=-3"
             + " ring(0)=1 ring(1)=2 ring(2)=0 ring(3)=-1");
+    sentence("8: the last bath of 9, as any other: second, third and last of the RING",
+        "bath(0) ".repeat(9) + each("recipe(*,0,2)", "0 1 3 8") + "need(0,0,8) need(8,0,1) need(1,0,3) need(3,0,0)=-3"
+            + " ring(0)=3 ring(1)=0 ring(2)=8 ring(3)=1 ring(4)=-1 need(1,1,0)=-3 ring(0)=1 ring(1)=0 ring(2)=8"
+            + " ring(3)=-1 need(1,1,8)=-3 ring(0)=1 ring(1)=8 ring(2)=-1 need(3,1,8)=-3 ring(0)=3 ring(1)=8"
+            + " ring(2)=1 ring(3)=-1");
     sentence("8: with what would have been named: not with what the PLACE names",
         "add(0) add(0,0) bath(0) recipe(2,0,1) need(2,0,1)=-1 recipe(0,0,2) need(0,0,2)=-3 ring(0)=0 ring(1)=2"
             + " ring(2)=1 ring(3)=-1");

@@ -12,6 +12,7 @@ public final class PromiseTests {
 
   public static void main(String[] args) {
     newObject();
+    objectsApart();
     vats();
     bath();
     recipe();
@@ -98,6 +99,36 @@ public final class PromiseTests {
     due("1: least", x.least(), 1);
     due("1: reach", x.reach(1), 1);
     due("1: check", x.check(1), 1);
+  }
+
+  private static void objectsApart() {
+    DyeVats x = new DyeVats();
+    add(x, BATH);
+    add(x, BATH, 0);
+    x.need(1, 0, 1);
+    x.goal(1);
+    x.vats(7);
+    x.make(0);
+    x.flip(9);
+    x.check(1);
+    DyeVats y = new DyeVats();
+    due("1: another has no baths", y.count(0), 0);
+    due("1: another has no ring", y.ring(0), -1);
+    due("1: another has its own bits", y.bit(9), 0);
+    due("1: another has no check", y.where(), -1);
+    add(y, DOUBLE);
+    y.goal(0);
+    duePlan("1: another's plan", y, 2, 0);
+    duePlan("1: the first one's plan", x, 2, 0, 1);
+    due("1: another's vats", y.count(2), 4);
+    y.make(0);
+    due("1: another's free vats", y.count(3), 2);
+    due("1: the first one's free vats", x.count(3), 6);
+    due("1: the first one's act", x.undo(), 0);
+    due("1: another's act stays", y.count(5), 1);
+    due("1: the first one's bits", x.count(6), 1);
+    due("1: the first one's kind", x.of(0, 0), BATH);
+    due("1: another's kind", y.of(0, 0), DOUBLE);
   }
 
   private static void vats() {
